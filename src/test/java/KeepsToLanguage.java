@@ -1,0 +1,127 @@
+import java.io.IOException;
+import java.lang.reflect.Constructor;
+import java.lang.reflect.Field;
+import java.lang.reflect.Method;
+import java.lang.reflect.Modifier;
+import java.nio.file.Files;
+import java.nio.file.Path;
+import java.util.Arrays;
+import java.util.HashSet;
+import java.util.Set;
+import java.util.TreeMap;
+import java.util.TreeSet;
+import java.util.regex.Matcher;
+import java.util.regex.Pattern;
+
+/** The public face of the document, and those rules of LANGUAGE.md that a look at the class can tell. */
+public final class KeepsToLanguage {
+    private static final Path SOURCE = Path.of("src/main/java/EngagementTree.java");
+    private static final Class<EngagementTree> CLASS = EngagementTree.class;
+    private static final Check check = new Check();
+
+    private static final String FACE = "int deficit(int), int deliver(int), int note(int), int parent(int), "
+        + "int passToken(), int rest(int), int result(int), int send(int, int), int settle(), int start(), "
+        + "int state(int), int tally(int, int), int token(), int verdict(), int work(int, int), "
+        + "boolean stained(int)";
+    private static final String CONSTANTS = "ACTIVE=2, ANNOUNCED=1, BAD=-1, BUSY=-5, FLYING=1, FREE=0, FULL=-3, "
+        + "HELD=2, NEUTRAL=0, NONE=-1, NOT_ACTIVE=-2, OK=0, REFUSED=-4, REPLYING=3, RING=2, TREE=1, WAITING=1";
+
+    public static void main(String[] args) throws IOException, IllegalAccessException {
+        face();
+        fields();
+        methods();
+        words(Files.readString(SOURCE));
+        check.end();
+    }
+
+    private static void face() throws IllegalAccessException {
+        check.due("the class is public and final", CLASS.getModifiers(), Modifier.PUBLIC | Modifier.FINAL);
+        check.due("nested classes", CLASS.getDeclaredClasses().length, 0);
+        Constructor<?>[] constructors = CLASS.getDeclaredConstructors();
+        check.due("constructors", constructors.length, 1);
+        check.due("the constructor is public", Modifier.isPublic(constructors[0].getModifiers()), true);
+        check.due("it takes two ints",
+            Arrays.equals(constructors[0].getParameterTypes(), new Class<?>[] {int.class, int.class}), true);
+
+        Set<String> methods = new HashSet<>();
+        for (Method method : CLASS.getDeclaredMethods()) {
+            if (!Modifier.isPrivate(method.getModifiers())) {
+                check.due(method + " is public alone", method.getModifiers(), Modifier.PUBLIC);
+                String types = Arrays.toString(method.getParameterTypes()).replaceAll("[\\[\\]]", "");
+                methods.add(method.getReturnType() + " " + method.getName() + "(" + types + ")");
+            }
+        }
+        check.due("public methods " + methods, methods.equals(new HashSet<>(split(FACE))), true);
+
+        TreeMap<String, Object> constants = new TreeMap<>();
+        for (Field field : CLASS.getDeclaredFields()) {
+            if (!Modifier.isPrivate(field.getModifiers())) {
+                check.due(field + " is an int constant", field.getType() == int.class
+                    && field.getModifiers() == (Modifier.PUBLIC | Modifier.STATIC | Modifier.FINAL), true);
+                constants.put(field.getName(), field.get(null));
+            }
+        }
+        check.due("public constants " + constants, constants.toString().equals("{" + CONSTANTS + "}"), true);
+    }
+
+    private static Set<String> split(String list) {
+        return new TreeSet<>(Arrays.asList(list.split("(?<=\\)), ")));
+    }
+
+    private static void fields() {
+        int ofObjects = 0;
+        for (Field field : CLASS.getDeclaredFields()) {
+            Class<?> type = field.getType();
+            boolean fixed = Modifier.isStatic(field.getModifiers());
+            ofObjects += fixed ? 0 : 1;
+            Class<?> element = !fixed && type.isArray() ? type.getComponentType() : type;
+            check.due(field + " is of an allowed type", element.isPrimitive()
+                && element != float.class && element != double.class, true);
+            if (fixed) {
+                check.due(field + " is a constant", Modifier.isFinal(field.getModifiers())
+                    && (type == int.class || type == long.class), true);
+            }
+        }
+        check.due("there are at most 40 fields", ofObjects <= 40, true);
+    }
+
+    private static void methods() {
+        Set<String> open = new HashSet<>();
+        for (Method method : CLASS.getDeclaredMethods()) {
+            check.due(method + " takes at most seven", method.getParameterCount() <= 7, true);
+            check.due(method + " answers no array", method.getReturnType().isArray(), false);
+            if (Modifier.isPublic(method.getModifiers())) {
+                open.add(method.getName());
+            }
+        }
+        for (Method method : CLASS.getDeclaredMethods()) {
+            if (Modifier.isPrivate(method.getModifiers())) {
+                check.due(method + " has a name of its own", open.contains(method.getName()), false);
+            }
+        }
+    }
+
+    private static void words(String source) {
+        String code = source.replaceAll("(?s)/\\*.*?\\*/", "").replaceAll("//[^\n]*", "");
+        String[] ruledOut = {"package", "import", "null", "throw", "throws", "try", "catch", "finally",
+            "synchronized", "assert", "instanceof", "float", "double", "class\\s+(?!EngagementTree\\b)\\w+",
+            "interface", "enum", "record", "String", "Object", "Math", "Integer", "System", "Arrays",
+            "hashCode", "equals", "toString", "getClass"};
+        for (String word : ruledOut) {
+            check.due("the code has '" + word + "'", Pattern.compile("\\b" + word + "\\b").matcher(code).find(), false);
+        }
+        for (String mark : new String[] {"->", "::", "\"", "@", "[][]"}) {
+            check.due("the code has '" + mark + "'", code.contains(mark), false);
+        }
+        Matcher made = Pattern.compile("(?m)^.*\\bnew\\b.*$").matcher(code);
+        Pattern field = Pattern.compile("    private final \\w+\\[\\] \\w+ = new \\w+\\[[A-Z_]+\\];");
+        while (made.find()) {
+            check.due("made as a field:" + made.group(), field.matcher(made.group()).matches(), true);
+        }
+        Pattern nested = Pattern.compile("\\b(?!if|for|while|switch|return)\\w+\\([^()]*\\b(?!if)\\w+\\([^()]*\\)[^()]*\\)");
+        for (String line : code.split("\n")) {
+            String inner = line.replaceAll("\\b(if|for|while|switch|return)\\b", "");
+            check.due("a call inside a call:" + line, nested.matcher(inner).find(), false);
+        }
+    }
+}
