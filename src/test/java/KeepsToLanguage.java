@@ -39,9 +39,9 @@ public final class KeepsToLanguage {
         check.due("nested classes", CLASS.getDeclaredClasses().length, 0);
         Constructor<?>[] constructors = CLASS.getDeclaredConstructors();
         check.due("constructors", constructors.length, 1);
-        check.due("the constructor is public", Modifier.isPublic(constructors[0].getModifiers()), true);
-        check.due("it takes two ints",
-            Arrays.equals(constructors[0].getParameterTypes(), new Class<?>[] {int.class, int.class}), true);
+        check.holds("the constructor is public", Modifier.isPublic(constructors[0].getModifiers()));
+        check.holds("it takes two ints",
+            Arrays.equals(constructors[0].getParameterTypes(), new Class<?>[] {int.class, int.class}));
 
         Set<String> methods = new HashSet<>();
         for (Method method : CLASS.getDeclaredMethods()) {
@@ -51,17 +51,17 @@ public final class KeepsToLanguage {
                 methods.add(method.getReturnType() + " " + method.getName() + "(" + types + ")");
             }
         }
-        check.due("public methods " + methods, methods.equals(new HashSet<>(split(FACE))), true);
+        check.holds("public methods " + methods, methods.equals(new HashSet<>(split(FACE))));
 
         TreeMap<String, Object> constants = new TreeMap<>();
         for (Field field : CLASS.getDeclaredFields()) {
             if (!Modifier.isPrivate(field.getModifiers())) {
-                check.due(field + " is an int constant", field.getType() == int.class
-                    && field.getModifiers() == (Modifier.PUBLIC | Modifier.STATIC | Modifier.FINAL), true);
+                check.holds(field + " is an int constant", field.getType() == int.class
+                    && field.getModifiers() == (Modifier.PUBLIC | Modifier.STATIC | Modifier.FINAL));
                 constants.put(field.getName(), field.get(null));
             }
         }
-        check.due("public constants " + constants, constants.toString().equals("{" + CONSTANTS + "}"), true);
+        check.holds("public constants " + constants, constants.toString().equals("{" + CONSTANTS + "}"));
     }
 
     private static Set<String> split(String list) {
@@ -75,28 +75,28 @@ public final class KeepsToLanguage {
             boolean fixed = Modifier.isStatic(field.getModifiers());
             ofObjects += fixed ? 0 : 1;
             Class<?> element = !fixed && type.isArray() ? type.getComponentType() : type;
-            check.due(field + " is of an allowed type", element.isPrimitive()
-                && element != float.class && element != double.class, true);
+            check.holds(field + " is of an allowed type", element.isPrimitive()
+                && element != float.class && element != double.class);
             if (fixed) {
-                check.due(field + " is a constant", Modifier.isFinal(field.getModifiers())
-                    && (type == int.class || type == long.class), true);
+                check.holds(field + " is a constant", Modifier.isFinal(field.getModifiers())
+                    && (type == int.class || type == long.class));
             }
         }
-        check.due("there are at most 40 fields", ofObjects <= 40, true);
+        check.holds("there are at most 40 fields", ofObjects <= 40);
     }
 
     private static void methods() {
         Set<String> open = new HashSet<>();
         for (Method method : CLASS.getDeclaredMethods()) {
-            check.due(method + " takes at most seven", method.getParameterCount() <= 7, true);
-            check.due(method + " answers no array", method.getReturnType().isArray(), false);
+            check.holds(method + " takes at most seven", method.getParameterCount() <= 7);
+            check.holds(method + " answers no array", !method.getReturnType().isArray());
             if (Modifier.isPublic(method.getModifiers())) {
                 open.add(method.getName());
             }
         }
         for (Method method : CLASS.getDeclaredMethods()) {
             if (Modifier.isPrivate(method.getModifiers())) {
-                check.due(method + " has a name of its own", open.contains(method.getName()), false);
+                check.holds(method + " has a name of its own", !open.contains(method.getName()));
             }
         }
     }
@@ -108,20 +108,20 @@ public final class KeepsToLanguage {
             "interface", "enum", "record", "String", "Object", "Math", "Integer", "System", "Arrays",
             "hashCode", "equals", "toString", "getClass"};
         for (String word : ruledOut) {
-            check.due("the code has '" + word + "'", Pattern.compile("\\b" + word + "\\b").matcher(code).find(), false);
+            check.holds("the code has no '" + word + "'", !Pattern.compile("\\b" + word + "\\b").matcher(code).find());
         }
         for (String mark : new String[] {"->", "::", "\"", "@", "[][]"}) {
-            check.due("the code has '" + mark + "'", code.contains(mark), false);
+            check.holds("the code has no '" + mark + "'", !code.contains(mark));
         }
         Matcher made = Pattern.compile("(?m)^.*\\bnew\\b.*$").matcher(code);
         Pattern field = Pattern.compile("    private final \\w+\\[\\] \\w+ = new \\w+\\[[A-Z_]+\\];");
         while (made.find()) {
-            check.due("made as a field:" + made.group(), field.matcher(made.group()).matches(), true);
+            check.holds("made as a field:" + made.group(), field.matcher(made.group()).matches());
         }
         Pattern nested = Pattern.compile("\\b(?!if|for|while|switch|return)\\w+\\([^()]*\\b(?!if)\\w+\\([^()]*\\)[^()]*\\)");
         for (String line : code.split("\n")) {
             String inner = line.replaceAll("\\b(if|for|while|switch|return)\\b", "");
-            check.due("a call inside a call:" + line, nested.matcher(inner).find(), false);
+            check.holds("no call inside a call:" + line, !nested.matcher(inner).find());
         }
     }
 }

@@ -1,52 +1,68 @@
-/** Promise 11: parent answers who sent the held note. */
+/** Promise 11, sentence by sentence: parent answers who sent the held note. */
 public final class Promise11Parent {
     private static final Check check = new Check();
 
     public static void main(String[] args) {
-        EngagementTree x = new EngagementTree(4, 8);
-        nobody(x, "before the first start");
-        x.start();
-        nobody(x, "after start");
-        x.send(0, 3);
+        check.section("Promise 11");
+        senderOfTheHeldNote();
+        none();
+        nothingChanges();
+        check.endOfSection();
+    }
+
+    private static void senderOfTheHeldNote() {
+        check.sentence("parent(p) answers the sender of the HELD note whose receiver is p");
+        EngagementTree x = Scenes.drawnIn(8, 8, 7);
+        check.answers(x, "parent(7) = 0");
+        x.send(7, 1);
+        x.send(0, 1);
+        x.deliver(1);
+        check.answers(x, "parent(1) = 7");
+        x.deliver(2);
+        check.answers(x, "parent(1) = 7");
+        x.send(1, 2);
+        x.deliver(3);
+        check.answers(x, "parent(2) = 1");
+        x.rest(1);
+        check.answers(x, "parent(1) = 7", "state(1) = WAITING");
+        // Once home, the next note may come from another.
+        x.rest(2);
+        x.deliver(3);
+        check.answers(x, "parent(2) = NONE", "parent(1) = NONE");
+        x.send(0, 1);
+        x.deliver(3);
+        check.answers(x, "parent(1) = 0");
+        Walk.everyStep(step -> {
+            for (int s = 0; s < step.walk().m; s++) {
+                int note = step.after().answer("note(" + s + ")");
+                if (note / 64 == EngagementTree.HELD) {
+                    check.due("parent(" + note % 8 + ")", step.after().answer("parent(" + note % 8 + ")"), note / 8 % 8);
+                }
+            }
+        });
+    }
+
+    private static void none() {
+        check.sentence("It answers NONE if there is none (so always for process 0)");
+        check.inEveryScene(x -> {
+            for (int p : new int[] {0, -1, 3, 7, 8, Integer.MIN_VALUE, Integer.MAX_VALUE}) {
+                check.answers(x, "parent(" + p + ") = NONE");
+            }
+        });
+        EngagementTree x = Scenes.started(3, 8);
         x.send(0, 1);
         x.send(0, 0);
-        nobody(x, "with notes flying");
-        x.deliver(0);
-        x.deliver(2);
-        parents(x, "with 3 drawn in", -1, -1, -1, 0);
-        x.send(3, 1);
-        x.deliver(3);
-        parents(x, "with 1 drawn in by 3", -1, 3, -1, 0);
+        check.answers(x, "parent(1) = NONE");
         x.deliver(1);
-        parents(x, "with a second note to 1", -1, 3, -1, 0);
-        x.send(1, 0);
-        x.send(1, 2);
-        x.deliver(4);
-        x.deliver(5);
-        parents(x, "with 2 drawn in by 1", -1, 3, 1, 0);
+        check.answers(x, "parent(0) = NONE", "note(1) = 192");
+        x.deliver(0);
         x.rest(1);
-        parents(x, "with 1 waiting", -1, 3, 1, 0);
-        x.rest(2);
-        parents(x, "with 2 home", -1, 3, -1, 0);
-        x.deliver(4);
-        x.deliver(5);
-        parents(x, "with 1 home", -1, -1, -1, 0);
-        x.send(0, 1);
-        x.deliver(4);
-        parents(x, "with 1 drawn in anew", -1, 0, -1, 0);
-        check.end();
+        check.answers(x, "parent(1) = NONE", "note(0) = 193");
+        Walk.everyStep(step -> check.due("parent(0)", step.after().answer("parent(0)"), EngagementTree.NONE));
     }
 
-    private static void nobody(EngagementTree x, String when) {
-        parents(x, when, -1, -1, -1, -1);
-    }
-
-    private static void parents(EngagementTree x, String when, int... due) {
-        for (int p = 0; p < due.length; p++) {
-            check.due("parent(" + p + ") " + when, x.parent(p), due[p]);
-        }
-        for (int p : new int[] {-1, 4, 7, 8, Integer.MIN_VALUE, Integer.MAX_VALUE}) {
-            check.due("parent(" + p + ") " + when, x.parent(p), EngagementTree.NONE);
-        }
+    private static void nothingChanges() {
+        check.sentence("Nothing changes");
+        Walk.compareAskedAndUnasked(check, x -> Walk.arguments().forEach(x::parent));
     }
 }

@@ -1,49 +1,43 @@
-/** Promise 16: the verdict has a bit for each detector, and either may be first. */
+/** Promise 16, sentence by sentence: the verdict has a bit for each detector, and either may be first. */
 public final class Promise16Verdict {
     private static final Check check = new Check();
 
     public static void main(String[] args) {
-        treeFirst();
-        ringFirst();
-        check.end();
+        check.section("Promise 16");
+        bits();
+        eitherFirst();
+        nothingChanges();
+        check.endOfSection();
     }
 
-    private static void treeFirst() {
-        EngagementTree x = new EngagementTree(2, 8);
-        check.due("verdict() before the first start", x.verdict(), 0);
-        x.start();
-        check.due("verdict() after start", x.verdict(), 0);
-        x.rest(0);
-        check.due("verdict() after rest", x.verdict(), 1);
-        x.passToken();
-        x.passToken();
-        check.due("verdict() after a round", x.verdict(), 1);
-        x.passToken();
-        check.due("verdict() after two", x.verdict(), 3);
-        x.settle();
-        x.deliver(0);
-        x.rest(0);
-        check.due("verdict() stays", x.verdict(), 3);
-        x.start();
-        check.due("verdict() after the next start", x.verdict(), 0);
+    private static void bits() {
+        check.sentence("verdict() answers TREE if that is announced, plus RING if that is announced");
+        check.answers(new EngagementTree(2, 8), "verdict() = 0");
+        check.answers(Scenes.started(2, 8), "verdict() = 0");
+        check.answers(Scenes.treeAlone(2, 8), "verdict() = 1");
+        check.answers(Scenes.ringAlone(2, 8), "verdict() = 2");
+        EngagementTree x = Scenes.both(2, 8);
+        check.answers(x, "verdict() = 3", "settle() = 3", "deliver(0) = REFUSED", "rest(0) = NOT_ACTIVE", "verdict() = 3",
+            "start() = OK", "verdict() = 0");
     }
 
-    private static void ringFirst() {
-        EngagementTree x = new EngagementTree(2, 8);
-        x.start();
-        x.send(0, 1);
-        x.rest(0);
-        x.deliver(0);
-        x.rest(1);
+    private static void eitherFirst() {
+        check.sentence("Either bit can be announced before the other");
+        EngagementTree tree = Scenes.started(2, 8);
+        check.answers(tree, "rest(0) = OK", "verdict() = TREE", "passToken() = OK", "verdict() = TREE",
+            "passToken() = OK", "verdict() = TREE", "passToken() = ANNOUNCED", "verdict() = TREE + RING");
+        EngagementTree ring = Scenes.drawnIn(2, 8, 1);
+        ring.rest(0);
+        ring.rest(1);
         for (int i = 0; i < 4; i++) {
-            x.passToken();
-            check.due("verdict() after pass " + i, x.verdict(), 0);
+            check.answers(ring, "verdict() = 0", "passToken() = OK");
         }
-        x.passToken();
-        check.due("verdict() after RING", x.verdict(), 2);
-        x.start();
-        check.due("verdict() after a refused start", x.verdict(), 2);
-        x.deliver(0);
-        check.due("verdict() after the acknowledgement", x.verdict(), 3);
+        check.answers(ring, "verdict() = 0", "passToken() = ANNOUNCED", "verdict() = RING", "start() = REFUSED",
+            "verdict() = RING", "deliver(0) = FREE", "verdict() = TREE + RING");
+    }
+
+    private static void nothingChanges() {
+        check.sentence("Nothing changes");
+        Walk.compareAskedAndUnasked(check, EngagementTree::verdict);
     }
 }
