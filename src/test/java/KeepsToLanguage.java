@@ -7,6 +7,7 @@ import java.nio.file.Files;
 import java.nio.file.Path;
 import java.util.Arrays;
 import java.util.HashSet;
+import java.util.Map;
 import java.util.Set;
 import java.util.TreeMap;
 import java.util.TreeSet;
@@ -30,7 +31,9 @@ public final class KeepsToLanguage {
         face();
         fields();
         methods();
-        words(Files.readString(SOURCE));
+        String code = Files.readString(SOURCE).replaceAll("(?s)/\\*.*?\\*/", "").replaceAll("//[^\n]*", "");
+        words(code);
+        calls(bodies(code));
         check.end();
     }
 
@@ -101,8 +104,7 @@ public final class KeepsToLanguage {
         }
     }
 
-    private static void words(String source) {
-        String code = source.replaceAll("(?s)/\\*.*?\\*/", "").replaceAll("//[^\n]*", "");
+    private static void words(String code) {
         String[] ruledOut = {"package", "import", "null", "throw", "throws", "try", "catch", "finally",
             "synchronized", "assert", "instanceof", "float", "double", "class\\s+(?!EngagementTree\\b)\\w+",
             "interface", "enum", "record", "String", "Object", "Math", "Integer", "System", "Arrays",
@@ -118,10 +120,47 @@ public final class KeepsToLanguage {
         while (made.find()) {
             check.holds("made as a field:" + made.group(), field.matcher(made.group()).matches());
         }
-        Pattern nested = Pattern.compile("\\b(?!if|for|while|switch|return)\\w+\\([^()]*\\b(?!if)\\w+\\([^()]*\\)[^()]*\\)");
+        Pattern nested = Pattern.compile("\\b\\w+\\([^()]*\\b\\w+\\([^()]*\\)[^()]*\\)");
         for (String line : code.split("\n")) {
             String inner = line.replaceAll("\\b(if|for|while|switch|return)\\b", "");
             check.holds("no call inside a call:" + line, !nested.matcher(inner).find());
         }
+    }
+    /** The text of each method by its name, which the rules leave to one method alone. */
+    private static Map<String, String> bodies(String code) {
+        Map<String, String> bodies = new TreeMap<>();
+        String header = "^    (?:public|private) [\\w ]*?(\\w+)\\([^)]*\\) \\{$";
+        Matcher method = Pattern.compile("(?ms)" + header + "(.*?)^    \\}$").matcher(code);
+        while (method.find()) {
+            bodies.put(method.group(1), method.group(2));
+        }
+        int declared = CLASS.getDeclaredMethods().length + CLASS.getDeclaredConstructors().length;
+        check.due("methods found in the code", bodies.size(), declared);
+        return bodies;
+    }
+
+    private static void calls(Map<String, String> bodies) {
+        for (Map.Entry<String, String> method : bodies.entrySet()) {
+            check.holds(method.getKey() + " has at most 60 lines", method.getValue().split("\n").length <= 60);
+            Set<String> reached = Set.of(method.getKey());
+            for (int depth = 1; depth <= 6; depth++) {
+                reached = calledBy(reached, bodies);
+                check.holds(method.getKey() + " doesn't come to itself", !reached.contains(method.getKey()));
+            }
+            check.holds(method.getKey() + " calls at most six deep, not on to " + reached, reached.isEmpty());
+        }
+    }
+
+    private static Set<String> calledBy(Set<String> callers, Map<String, String> bodies) {
+        Set<String> called = new TreeSet<>();
+        for (String caller : callers) {
+            Matcher call = Pattern.compile("\\b(\\w+)\\(").matcher(bodies.get(caller));
+            while (call.find()) {
+                if (bodies.containsKey(call.group(1))) {
+                    called.add(call.group(1));
+                }
+            }
+        }
+        return called;
     }
 }

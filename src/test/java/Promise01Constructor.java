@@ -24,7 +24,8 @@ public final class Promise01Constructor {
         for (int run = 0; run < 3; run++) {
             check.answers(x, "start() = OK");
             sizes(x, 4, 9);
-            while (x.send(0, 3) != EngagementTree.FULL) {
+            for (int s = 0; s < 9; s++) {
+                check.answers(x, "send(0, 3) = " + s);
                 sizes(x, 4, 9);
             }
             for (int s = 0; s < 9; s++) {

@@ -141,7 +141,7 @@ public final class Promise04Send {
 
     private static int firstFree(EngagementTree x) {
         int s = 0;
-        while (x.note(s) != 0) {
+        while (s < 8 && x.note(s) != 0) {
             s++;
         }
         return s;

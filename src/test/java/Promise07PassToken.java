@@ -140,29 +140,31 @@ public final class Promise07PassToken {
         }
     }
 
-    /** A note from 0 to p is under way, and the clean token is just below p. */
-    private static EngagementTree tokenBelow(int p) {
+    /** A note from 0 to q is under way, and the token goes round clean, handled by those above h. */
+    private static EngagementTree tokenAt(int h, int q) {
         EngagementTree x = Scenes.started(3, 8);
-        x.send(0, p);
+        x.send(0, q);
         x.rest(0);
         x.passToken();
-        while (p > 0 && x.token() >= 2 * p) {
+        for (int p = 2; p > h; p--) {
             x.passToken();
         }
+        check.answers(x, "token() = " + 2 * h);
         return x;
     }
 
-    private static void tokenHome(EngagementTree x) {
-        while (x.token() != 0) {
+    private static void tokenHome(EngagementTree x, int h) {
+        for (int p = h; p > 0; p--) {
             check.answers(x, "passToken() = OK");
         }
+        check.answers(x, "token() = 0");
     }
 
     private static void activeProcessHoldsItBack() {
         for (int p = 1; p <= 2; p++) {
-            EngagementTree x = tokenBelow(p);
+            EngagementTree x = tokenAt(p - 1, p);
             x.deliver(0);
-            tokenHome(x);
+            tokenHome(x, p - 1);
             check.answers(x, "state(" + p + ") = ACTIVE");
             check.call(x, "passToken() = OK", "token() = 4");
         }
@@ -170,20 +172,20 @@ public final class Promise07PassToken {
 
     private static void stainedProcessHoldsItBack() {
         for (int p = 1; p <= 2; p++) {
-            EngagementTree x = tokenBelow(p);
+            EngagementTree x = tokenAt(p - 1, p);
             x.deliver(0);
             x.rest(p);
-            tokenHome(x);
+            tokenHome(x, p - 1);
             check.answers(x, "stained(" + p + ") = true", "state(" + p + ") = NEUTRAL");
             check.call(x, "passToken() = OK", "token() = 4");
         }
     }
 
     private static void stainedRootHoldsItBack() {
-        EngagementTree x = tokenBelow(0);
+        EngagementTree x = tokenAt(2, 0);
         x.deliver(0);
         x.rest(0);
-        tokenHome(x);
+        tokenHome(x, 2);
         check.call(x, "passToken() = OK", "token() = 4", "stained(0) = false");
         check.call(x, "passToken() = OK", "token() = 2");
         check.call(x, "passToken() = OK", "token() = 0");

@@ -28,10 +28,10 @@ public final class Promise08Settle {
             "result(0) = 6", "result(1) = 3", "result(2) = 1");
     }
 
-    /** What settle does, step by step with the calls that it stands for. */
+    /** What settle does, step by step with the calls that it stands for; a deliver(-1) does nothing. */
     private static int stepByStep(EngagementTree x, int n, int m) {
-        for (int s = lowestReplying(x, m); s >= 0; s = lowestReplying(x, m)) {
-            x.deliver(s);
+        for (int i = 0; i < m; i++) {
+            x.deliver(lowestReplying(x, m));
         }
         int passes = 0;
         while (passes < 3 * n && x.passToken() == EngagementTree.OK) {
@@ -85,7 +85,8 @@ public final class Promise08Settle {
         for (int p = 0; p < 8; p++) {
             x.rest(p);
         }
-        check.answers(x, "note(6) = 247", "note(5) = 174", "settle() = TREE + RING", "result(1) = 255", "result(2) = 7");
+        check.answers(x, "note(6) = 247", "note(5) = 174", "settle() = TREE + RING", "result(1) = 255",
+            "result(2) = 7");
         // The slot that becomes REPLYING may be above or below the one that is delivered.
         EngagementTree above = Scenes.started(3, 8);
         above.send(0, 1);

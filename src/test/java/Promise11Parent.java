@@ -36,7 +36,8 @@ public final class Promise11Parent {
             for (int s = 0; s < step.walk().m; s++) {
                 int note = step.after().answer("note(" + s + ")");
                 if (note / 64 == EngagementTree.HELD) {
-                    check.due("parent(" + note % 8 + ")", step.after().answer("parent(" + note % 8 + ")"), note / 8 % 8);
+                    String parent = "parent(" + note % 8 + ")";
+                    check.due(parent, step.after().answer(parent), note / 8 % 8);
                 }
             }
         });

@@ -51,9 +51,7 @@ public final class Promise14Token {
                 x.deliver(0);
                 x.rest(0);
                 x.rest(1);
-                while (x.passToken() == EngagementTree.OK) {
-                    continue;
-                }
+                Scenes.passTwoRounds(x, n);
                 check.answers(x, "verdict() = RING", "token() = 0", "passToken() = REFUSED", "start() = REFUSED",
                     "token() = 0", "settle() = TREE + RING", "token() = 0", "settle() = TREE + RING", "token() = 0");
             }

@@ -90,7 +90,8 @@ public final class Promise15Tally {
         check.inEveryScene(x -> {
             for (int wrong : ends) {
                 for (int right = -1; right <= 3; right++) {
-                    check.answers(x, "tally(" + wrong + ", " + right + ") = 0", "tally(" + right + ", " + wrong + ") = 0");
+                    check.answers(x, "tally(" + wrong + ", " + right + ") = 0",
+                        "tally(" + right + ", " + wrong + ") = 0");
                 }
             }
         });

@@ -17,8 +17,8 @@ public final class Promise16Verdict {
         check.answers(Scenes.treeAlone(2, 8), "verdict() = 1");
         check.answers(Scenes.ringAlone(2, 8), "verdict() = 2");
         EngagementTree x = Scenes.both(2, 8);
-        check.answers(x, "verdict() = 3", "settle() = 3", "deliver(0) = REFUSED", "rest(0) = NOT_ACTIVE", "verdict() = 3",
-            "start() = OK", "verdict() = 0");
+        check.answers(x, "verdict() = 3", "settle() = 3", "deliver(0) = REFUSED", "rest(0) = NOT_ACTIVE",
+            "verdict() = 3", "start() = OK", "verdict() = 0");
     }
 
     private static void eitherFirst() {

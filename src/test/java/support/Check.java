@@ -2,11 +2,13 @@ import java.util.ArrayList;
 import java.util.LinkedHashMap;
 import java.util.List;
 import java.util.Map;
+import java.util.concurrent.TimeUnit;
 import java.util.function.Consumer;
 
 /** Compares answers with those due, and keeps account of the document's sentences that were checked. */
 final class Check {
     private static final int MOST_TOLD = 50;
+    private static final int LONGEST_MINUTES = 20;
 
     private final Map<String, Integer> checksOfSentence = new LinkedHashMap<>();
     private String section = "";
@@ -14,6 +16,23 @@ final class Check {
     private String scene = "";
     private int asked = 0;
     private int wrong = 0;
+
+    Check() {
+        Thread watch = new Thread(Check::giveUp);
+        watch.setDaemon(true);
+        watch.start();
+    }
+
+    // A call that never ends would otherwise stop all tests instead of failing one.
+    private static void giveUp() {
+        try {
+            TimeUnit.MINUTES.sleep(LONGEST_MINUTES);
+        } catch (InterruptedException ended) {
+            return;
+        }
+        System.out.println("no end after " + LONGEST_MINUTES + " minutes");
+        Runtime.getRuntime().halt(1);
+    }
 
     /** The sentences of this section are looked for until another one is turned to. */
     void section(String title) {

@@ -31,8 +31,8 @@ final class Scenes {
     /** Every slot is taken by a note from process 0 to process q, and none was delivered. */
     static EngagementTree full(int processes, int slots, int q) {
         EngagementTree x = started(processes, slots);
-        while (x.send(0, q) != EngagementTree.FULL) {
-            continue;
+        for (int s = 0; s < slots; s++) {
+            x.send(0, q);
         }
         return x;
     }
@@ -51,10 +51,15 @@ final class Scenes {
         x.work(1, 6);
         x.rest(0);
         x.rest(1);
-        while (x.passToken() == EngagementTree.OK) {
-            continue;
-        }
+        passTwoRounds(x, processes);
         return x;
+    }
+
+    /** One round to clean all, one to find all clean, and the pass that announces. */
+    static void passTwoRounds(EngagementTree x, int processes) {
+        for (int i = 0; i < 2 * processes + 1; i++) {
+            x.passToken();
+        }
     }
 
     static EngagementTree both(int processes, int slots) {
