@@ -1,11 +1,9 @@
 import java.io.IOException;
-import java.lang.reflect.Constructor;
 import java.lang.reflect.Field;
 import java.lang.reflect.Method;
 import java.lang.reflect.Modifier;
 import java.nio.file.Files;
 import java.nio.file.Path;
-import java.util.Arrays;
 import java.util.HashSet;
 import java.util.Map;
 import java.util.Set;
@@ -14,61 +12,20 @@ import java.util.TreeSet;
 import java.util.regex.Matcher;
 import java.util.regex.Pattern;
 
-/** The public face of the document, and those rules of LANGUAGE.md that a look at the class can tell. */
+/** Those rules of LANGUAGE.md that a look at the class can tell; PublicFace tells what it shows. */
 public final class KeepsToLanguage {
     private static final Path SOURCE = Path.of("src/main/java/EngagementTree.java");
     private static final Class<EngagementTree> CLASS = EngagementTree.class;
     private static final Check check = new Check();
 
-    private static final String FACE = "int deficit(int), int deliver(int), int note(int), int parent(int), "
-        + "int passToken(), int rest(int), int result(int), int send(int, int), int settle(), int start(), "
-        + "int state(int), int tally(int, int), int token(), int verdict(), int work(int, int), "
-        + "boolean stained(int)";
-    private static final String CONSTANTS = "ACTIVE=2, ANNOUNCED=1, BAD=-1, BUSY=-5, FLYING=1, FREE=0, FULL=-3, "
-        + "HELD=2, NEUTRAL=0, NONE=-1, NOT_ACTIVE=-2, OK=0, REFUSED=-4, REPLYING=3, RING=2, TREE=1, WAITING=1";
-
-    public static void main(String[] args) throws IOException, IllegalAccessException {
-        face();
+    public static void main(String[] args) throws IOException {
         fields();
         methods();
         String code = Files.readString(SOURCE).replaceAll("(?s)/\\*.*?\\*/", "").replaceAll("//[^\n]*", "");
         words(code);
+        loops(code);
         calls(bodies(code));
         check.end();
-    }
-
-    private static void face() throws IllegalAccessException {
-        check.due("the class is public and final", CLASS.getModifiers(), Modifier.PUBLIC | Modifier.FINAL);
-        check.due("nested classes", CLASS.getDeclaredClasses().length, 0);
-        Constructor<?>[] constructors = CLASS.getDeclaredConstructors();
-        check.due("constructors", constructors.length, 1);
-        check.holds("the constructor is public", Modifier.isPublic(constructors[0].getModifiers()));
-        check.holds("it takes two ints",
-            Arrays.equals(constructors[0].getParameterTypes(), new Class<?>[] {int.class, int.class}));
-
-        Set<String> methods = new HashSet<>();
-        for (Method method : CLASS.getDeclaredMethods()) {
-            if (!Modifier.isPrivate(method.getModifiers())) {
-                check.due(method + " is public alone", method.getModifiers(), Modifier.PUBLIC);
-                String types = Arrays.toString(method.getParameterTypes()).replaceAll("[\\[\\]]", "");
-                methods.add(method.getReturnType() + " " + method.getName() + "(" + types + ")");
-            }
-        }
-        check.holds("public methods " + methods, methods.equals(new HashSet<>(split(FACE))));
-
-        TreeMap<String, Object> constants = new TreeMap<>();
-        for (Field field : CLASS.getDeclaredFields()) {
-            if (!Modifier.isPrivate(field.getModifiers())) {
-                check.holds(field + " is an int constant", field.getType() == int.class
-                    && field.getModifiers() == (Modifier.PUBLIC | Modifier.STATIC | Modifier.FINAL));
-                constants.put(field.getName(), field.get(null));
-            }
-        }
-        check.holds("public constants " + constants, constants.toString().equals("{" + CONSTANTS + "}"));
-    }
-
-    private static Set<String> split(String list) {
-        return new TreeSet<>(Arrays.asList(list.split("(?<=\\)), ")));
     }
 
     private static void fields() {
@@ -126,6 +83,16 @@ public final class KeepsToLanguage {
             check.holds("no call inside a call:" + line, !nested.matcher(inner).find());
         }
     }
+
+    // The one form of loop that the class needs shows its end in its first line.
+    private static void loops(String code) {
+        Pattern counted = Pattern.compile("for \\(int (\\w+) = \\d; \\1 < \\w+; \\1\\+\\+\\) \\{");
+        Matcher loop = Pattern.compile("(?m)\\b(?:for|while|do)\\b.*$").matcher(code);
+        while (loop.find()) {
+            check.holds("it counts up to a bound: " + loop.group(), counted.matcher(loop.group()).matches());
+        }
+    }
+
     /** The text of each method by its name, which the rules leave to one method alone. */
     private static Map<String, String> bodies(String code) {
         Map<String, String> bodies = new TreeMap<>();
