@@ -7,9 +7,10 @@ import java.util.Map;
 import java.util.Set;
 
 /**
- * All that can happen in small systems: every call in every situation that two or three processes
- * can come to with a few notes at a time. A situation is all that can be seen but for the tallies
- * and results, which would make it endless; these are compared on one way to each situation.
+ * All that can happen in small systems: every situation that two or three processes can come to
+ * with a few notes at a time, and in it each call that may change something, with arguments in
+ * range and one beyond. A situation is all that can be seen but for the tallies and results, which
+ * would make it endless; these are compared on one way to each situation.
  */
 public final class EverySmallRun {
     private static final int SLOTS = 8;
